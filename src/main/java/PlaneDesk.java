@@ -259,6 +259,11 @@ public final class PlaneDesk {
         }
     }
 
+    /** Whether some graph has such a vertex: then it is an index too. */
+    private static boolean canBe(int v) {
+        return v >= 0 && v < MOST_VERTICES;
+    }
+
     private static int bit(int v) {
         return v >= 0 && v < MOST_VERTICES ? 1 << v : 0;
     }
@@ -325,7 +330,9 @@ public final class PlaneDesk {
 
         void copy(Row other) {
             clear();
-            addPart(other, 0, other.size);
+            for (int i = 0; i < other.size; i++) {
+                add(other.get(i));
+            }
         }
 
         /** Adds the other row's places from .. to - 1. */
@@ -401,14 +408,6 @@ public final class PlaneDesk {
             return hasEdge(e) ? higher[e] : NONE;
         }
 
-        /** The other end of an edge that has v as one end. */
-        int across(int e, int v) {
-            if (!hasEdge(e)) {
-                return NONE;
-            }
-            return lower[e] == v ? higher[e] : higher[e] == v ? lower[e] : NONE;
-        }
-
         /** The neighbours as bits. */
         int around(int v) {
             return v >= 0 && v < vertices ? near[v] : 0;
@@ -476,13 +475,18 @@ public final class PlaneDesk {
         }
     }
 
-    /** The blocks and components of a graph. */
+    /**
+     * The blocks and components of a graph. Two edges are of one block if rings lead from one to
+     * the other, and those rings are enough that one edge closes with the edges of a forest. Each
+     * edge of the forest is known by its end that is farther from the root.
+     */
     private static final class Blocks {
-        // Leads by and by to the least edge that is known to be of the same block.
-        private final int[] toward = new int[MOST_EDGES];
-        private final int[] number = new int[MOST_EDGES];
-        private final int[] upEdge = new int[MOST_VERTICES];
+        private final int[] up = new int[MOST_VERTICES];
         private final int[] depth = new int[MOST_VERTICES];
+        // Leads by and by to the vertex whose forest edge stands for all of its block.
+        private final int[] toward = new int[MOST_VERTICES];
+        private final int[] numberFor = new int[MOST_VERTICES];
+        private final int[] number = new int[MOST_EDGES];
         private final Row queue = new Row(MOST_VERTICES);
         private int seen;
         private int components;
@@ -492,10 +496,6 @@ public final class PlaneDesk {
             return e >= 0 && e < MOST_EDGES ? number[e] : NONE;
         }
 
-        /**
-         * Two edges are of one block if rings lead from one to the other, and of the rings
-         * those are enough that one edge beside a forest closes with the forest's edges.
-         */
         void find(Net net) {
             seen = 0;
             components = 0;
@@ -506,10 +506,7 @@ public final class PlaneDesk {
                 }
             }
             for (int e = 0; e < net.edges; e++) {
-                toward[e] = e;
-            }
-            for (int e = 0; e < net.edges; e++) {
-                closeRing(net, e);
+                closeRing(net.low(e), net.high(e));
             }
             giveNumbers(net);
         }
@@ -519,57 +516,62 @@ public final class PlaneDesk {
             reach(root, NONE, 0);
             for (int i = 0; i < MOST_VERTICES && i < queue.size(); i++) {
                 int x = queue.get(i);
-                int deeper = x >= 0 && x < MOST_VERTICES ? depth[x] + 1 : 0;
-                for (int e = 0; e < net.edges; e++) {
-                    int y = net.across(e, x);
-                    if (y != NONE && !in(seen, y)) {
-                        reach(y, e, deeper);
+                int fresh = net.around(x) & ~seen;
+                int deep = canBe(x) ? depth[x] + 1 : 0;
+                for (int y = 0; y < net.vertices && fresh != 0; y++) {
+                    if (in(fresh, y)) {
+                        reach(y, x, deep);
                     }
                 }
             }
         }
 
-        private void reach(int v, int byEdge, int deep) {
-            if (v < 0 || v >= MOST_VERTICES) {
+        private void reach(int v, int from, int deep) {
+            if (!canBe(v)) {
                 return;
             }
             seen |= bit(v);
-            upEdge[v] = byEdge;
+            up[v] = from;
             depth[v] = deep;
+            toward[v] = v;
+            numberFor[v] = NONE;
             queue.add(v);
         }
 
-        private void closeRing(Net net, int e) {
-            int u = net.low(e);
-            int v = net.high(e);
+        private int deeper(int u, int v) {
+            return !canBe(u) || !canBe(v) ? NONE : depth[u] > depth[v] ? u : v;
+        }
+
+        /** Goes up from both ends until they meet: all that is gone over is one ring. */
+        private void closeRing(int low, int high) {
+            int u = low;
+            int v = high;
+            int first = deeper(u, v);
             for (int step = 0; step < 2 * MOST_VERTICES && u != v; step++) {
-                if (!net.hasVertex(u) || !net.hasVertex(v)) {
+                int next = deeper(u, v);
+                if (!canBe(next)) {
                     return;
                 }
-                if (depth[u] > depth[v]) {
-                    merge(e, upEdge[u]);
-                    u = net.across(upEdge[u], u);
+                merge(first, next);
+                if (next == u) {
+                    u = up[u];
                 } else {
-                    merge(e, upEdge[v]);
-                    v = net.across(upEdge[v], v);
+                    v = up[v];
                 }
             }
         }
 
-        private void merge(int e, int f) {
-            int a = leastKnown(e);
-            int b = leastKnown(f);
-            if (a != NONE && b != NONE) {
-                toward[Math.max(a, b)] = Math.min(a, b);
+        private void merge(int u, int v) {
+            int a = standingFor(u);
+            int b = standingFor(v);
+            if (canBe(a) && canBe(b)) {
+                toward[a] = b;
             }
         }
 
-        private int leastKnown(int e) {
-            int at = e;
-            for (int step = 0; step < MOST_EDGES; step++) {
-                if (at < 0 || at >= MOST_EDGES) {
-                    return NONE;
-                }
+        private int standingFor(int v) {
+            int at = v;
+            for (int step = 0; step < MOST_VERTICES && canBe(at); step++) {
                 if (toward[at] == at) {
                     return at;
                 }
@@ -581,13 +583,15 @@ public final class PlaneDesk {
         private void giveNumbers(Net net) {
             count = 0;
             for (int e = 0; e < net.edges; e++) {
-                int least = leastKnown(e);
-                if (least == e) {
-                    number[e] = count;
-                    count++;
-                } else {
-                    number[e] = of(least);
+                int stand = standingFor(deeper(net.low(e), net.high(e)));
+                if (!canBe(stand)) {
+                    continue;
                 }
+                if (numberFor[stand] == NONE) {
+                    numberFor[stand] = count;
+                    count++;
+                }
+                number[e] = numberFor[stand];
             }
         }
     }
@@ -614,27 +618,23 @@ public final class PlaneDesk {
             }
         }
 
-        private boolean has(int v) {
-            return v >= 0 && v < MOST_VERTICES;
-        }
-
         void add(int v, int neighbour) {
-            if (has(v)) {
+            if (canBe(v)) {
                 rows[v].add(neighbour);
             }
         }
 
         int neighbour(int v, int i) {
-            return has(v) ? rows[v].get(i) : NONE;
+            return canBe(v) ? rows[v].get(i) : NONE;
         }
 
         boolean exchange(int v, int i, int k) {
-            return has(v) && rows[v].exchange(i, k);
+            return canBe(v) && rows[v].exchange(i, k);
         }
 
         /** The neighbour that follows x around v. */
         int behind(int v, int x) {
-            if (!has(v)) {
+            if (!canBe(v)) {
                 return NONE;
             }
             int place = rows[v].find(x);
@@ -671,7 +671,7 @@ public final class PlaneDesk {
             return has(r) ? rows[r].placeBehind(i) : 0;
         }
 
-        /** The first ring, from ring r on, that has all the feet. */
+        /** The first ring, from one on, that has all the feet. */
         int fitting(int feet, int from) {
             for (int r = Math.max(from, 0); r < count; r++) {
                 if ((bits[r] & feet) == feet) {
@@ -681,37 +681,26 @@ public final class PlaneDesk {
             return NONE;
         }
 
-        /** An empty row for a ring behind all. */
-        private Row open() {
-            count = Math.min(count + 1, MOST_RINGS);
-            rows[count - 1].clear();
-            return rows[count - 1];
-        }
-
-        private void close() {
-            if (count > 0) {
-                bits[count - 1] = rows[count - 1].bits();
-            }
-        }
-
         /** The first two rings; the way is told from the low end's side to the high end's. */
         void begin(int low, int high, Row way) {
-            count = 0;
-            Row there = open();
+            Row there = rows[0];
+            there.clear();
             there.add(low);
             there.add(high);
             there.addBackwards(way);
-            close();
-            Row back = open();
+            Row back = rows[1];
+            back.clear();
             back.add(low);
             back.addPart(way, 0, way.size());
             back.add(high);
-            close();
+            bits[0] = there.bits();
+            bits[1] = bits[0];
+            count = 2;
         }
 
         /** Parts ring r by a way between two of its vertices; the way is told from b's side to a's. */
         void part(int r, int a, int b, Row way) {
-            if (!has(r)) {
+            if (!has(r) || count >= MOST_RINGS) {
                 return;
             }
             whole.copy(rows[r]);
@@ -719,10 +708,11 @@ public final class PlaneDesk {
             rows[r].addArc(whole, a, b);
             rows[r].addPart(way, 0, way.size());
             bits[r] = rows[r].bits();
-            Row fresh = open();
-            fresh.addArc(whole, b, a);
-            fresh.addBackwards(way);
-            close();
+            rows[count].clear();
+            rows[count].addArc(whole, b, a);
+            rows[count].addBackwards(way);
+            bits[count] = rows[count].bits();
+            count++;
         }
     }
 
@@ -765,7 +755,7 @@ public final class PlaneDesk {
             way.clear();
             int v = goal;
             for (int step = 0; step < MOST_VERTICES; step++) {
-                if (v < 0 || v >= MOST_VERTICES || cameFrom[v] == from) {
+                if (!canBe(v) || cameFrom[v] == from) {
                     return;
                 }
                 v = cameFrom[v];
@@ -1095,7 +1085,7 @@ public final class PlaneDesk {
         }
 
         private void put(int v, int atX, int atY) {
-            if (v >= 0 && v < MOST_VERTICES) {
+            if (canBe(v)) {
                 x[v] = atX;
                 y[v] = atY;
             }
@@ -1112,9 +1102,7 @@ public final class PlaneDesk {
             order.clear();
             order.add(a);
             order.add(b);
-            for (int i = backwards.size() - 1; i >= 0; i--) {
-                order.add(backwards.get(i));
-            }
+            order.addBackwards(backwards);
         }
 
         /** The place on the rim of the least vertex that no edge ties to the rim elsewhere. */
@@ -1158,7 +1146,7 @@ public final class PlaneDesk {
             move(below, 1);
             move(carriedByLine(q, line.size()), 2);
             putAbove(v, line.get(p), line.get(q));
-            if (v >= 0 && v < MOST_VERTICES) {
+            if (canBe(v)) {
                 carried[v] = below | bit(v);
             }
             newLine.clear();
@@ -1172,7 +1160,7 @@ public final class PlaneDesk {
             int bits = 0;
             for (int i = from; i < to; i++) {
                 int v = line.get(i);
-                bits |= v >= 0 && v < MOST_VERTICES ? carried[v] : 0;
+                bits |= canBe(v) ? carried[v] : 0;
             }
             return bits;
         }
@@ -1186,10 +1174,9 @@ public final class PlaneDesk {
         }
 
         private void putAbove(int v, int p, int q) {
-            if (p < 0 || p >= MOST_VERTICES || q < 0 || q >= MOST_VERTICES) {
-                return;
+            if (canBe(p) && canBe(q)) {
+                put(v, (x[p] + x[q] + y[q] - y[p]) / 2, (x[q] - x[p] + y[p] + y[q]) / 2);
             }
-            put(v, (x[p] + x[q] + y[q] - y[p]) / 2, (x[q] - x[p] + y[p] + y[q]) / 2);
         }
     }
 
@@ -1206,7 +1193,7 @@ public final class PlaneDesk {
             for (int i = taken.size() - 1; i >= 0; i--) {
                 int v = taken.get(i);
                 int colour = leastFree(net.around(v) & done);
-                if (v >= 0 && v < MOST_VERTICES) {
+                if (canBe(v)) {
                     colours[v] = colour;
                 }
                 done |= bit(v);
