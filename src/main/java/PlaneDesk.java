@@ -571,7 +571,7 @@ public final class PlaneDesk {
 
         private int standingFor(int v) {
             int at = v;
-            for (int step = 0; step < MOST_VERTICES && canBe(at); step++) {
+            for (int step = 0; step < MOST_VERTICES && at >= 0 && at < MOST_VERTICES; step++) {
                 if (toward[at] == at) {
                     return at;
                 }
@@ -865,10 +865,9 @@ public final class PlaneDesk {
                 if ((outside & seen) != 0 || done.joined(block.low(e), block.high(e))) {
                     continue;
                 }
-                int inner = outside == 0 ? 0 : spread(outside);
-                int feet = outside == 0 ? ends : block.aroundAll(inner) & laid;
-                seen |= inner;
-                if (!weigh(inner, feet)) {
+                int part = outside == 0 ? ends : spread(outside);
+                seen |= part & ~laid;
+                if (!weigh(part & ~laid, part & laid)) {
                     return false;
                 }
             }
@@ -893,11 +892,11 @@ public final class PlaneDesk {
             return true;
         }
 
-        /** What hangs together with these vertices by vertices that aren't laid. */
+        /** What hangs together with these vertices by vertices that aren't laid, and the feet of all that. */
         private int spread(int from) {
             int reached = from;
             for (int step = 0; step < MOST_VERTICES; step++) {
-                int wider = reached | (block.aroundAll(reached) & ~laid);
+                int wider = reached | block.aroundAll(reached & ~laid);
                 if (wider == reached) {
                     break;
                 }

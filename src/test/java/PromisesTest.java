@@ -77,6 +77,10 @@ public final class PromisesTest {
         return desk(5, 0, 1, 1, 2, 2, 3, 0, 3, 0, 2, 1, 4, 3, 4);
     }
 
+    private static PlaneDesk octahedron() {
+        return desk(6, 0, 1, 0, 2, 0, 3, 0, 4, 1, 2, 1, 3, 1, 5, 2, 4, 2, 5, 3, 4, 3, 5, 4, 5);
+    }
+
     private static void dueTurn(PlaneDesk desk, int v, int... neighbours) {
         for (int i = 0; i < neighbours.length; i++) {
             due("turn(" + v + ", " + i + ")", desk.turn(v, i), neighbours[i]);
@@ -293,8 +297,18 @@ public final class PromisesTest {
         due("turn(0, 0)", full.turn(0, 0), 3);
         due("lay()", full.lay(), 6);
         dueTurn(full, 0, 1, 4, 2, 3);
+        PlaneDesk eight = octahedron();
+        due("lay()", eight.lay(), 8);
+        dueTurn(eight, 0, 1, 2, 4, 3);
+        dueTurn(eight, 1, 0, 3, 5, 2);
+        dueTurn(eight, 2, 0, 1, 5, 4);
+        dueTurn(eight, 3, 0, 4, 5, 1);
+        dueTurn(eight, 4, 0, 2, 5, 3);
+        dueTurn(eight, 5, 1, 3, 4, 2);
         PlaneDesk five = allWithAll(7, 5);
         due("lay()", five.lay(), NONE);
+        due("about(5)", five.about(5), 0);
+        due("may(5, 6)", five.may(5, 6), NONE);
         due("lay()", five.lay(), NONE);
         due("knot(0)", five.knot(0), 10);
         due("faces()", five.faces(), NONE);
@@ -577,6 +591,14 @@ public final class PromisesTest {
         due("at(-1, 0)", desk.at(-1, 0), NONE);
         due("lay()", desk.lay(), 6);
         dueAt(desk, 3, 3, 3, 4);
+        PlaneDesk eight = octahedron();
+        eight.draw();
+        dueAt(eight, 0, 0, 0, 0);
+        dueAt(eight, 1, 8, 0, 1);
+        dueAt(eight, 2, 3, 1, 2);
+        dueAt(eight, 3, 4, 4, 5);
+        dueAt(eight, 4, 4, 3, 4);
+        dueAt(eight, 5, 5, 2, 3);
         // Edge 0 goes from 1 to 2 here, so 1 is the first and 2 the second.
         PlaneDesk three = desk(3, 2, 1, 0, 1, 2, 0);
         three.draw();
