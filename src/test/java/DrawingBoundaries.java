@@ -208,6 +208,31 @@ final class DrawingBoundaries {
         answers.due("at(0, 0)", desk.at(0, 0), 4);
     }
 
+    @Says(promise = 17, sentence = BETWEEN, edge = "the most neighbours between")
+    static void seventeenNeighboursBetween(Answers answers) {
+        // 0 to 17 in a row, 18 and 19 with all. A, B, C are 0, 1, 19; behind 19 the rim is 0 18 17 16 .. 2 1. 18 has
+        // edges to all, so 17 goes, then 16 and so on down to 2; 18 is the third. Each k above 1 comes to stand at
+        // (k, k), goes 2 on by each that comes behind it, and 1 by 19.
+        PlaneDesk desk = Graphs.desk(20);
+        for (int v = 1; v < 18; v++) {
+            desk.join(v - 1, v);
+        }
+        for (int v = 0; v < 18; v++) {
+            desk.join(v, 18);
+            desk.join(v, 19);
+        }
+        desk.join(18, 19);
+        answers.due("draw()", desk.draw(), true);
+        answers.due("face(0, 2)", desk.face(0, 2), 19);
+        answers.dueAt(desk, 0, 0, 0, 0);
+        answers.dueAt(desk, 1, 36, 0, 1);
+        answers.dueAt(desk, 18, 2, 1, 2);
+        for (int k = 2; k < 18; k++) {
+            answers.dueAt(desk, k, 35 - k, k, k + 1);
+        }
+        answers.dueAt(desk, 19, 18, 18, 19);
+    }
+
     @Says(promise = 17, sentence = "A is the first, B the second.", edge = "the first two places")
     static void aIsTheFirstAndBTheSecond(Answers answers) {
         PlaneDesk desk = six();
@@ -407,6 +432,29 @@ final class DrawingBoundaries {
         answers.due("the highest y", high, 18);
     }
 
+    @Says(promise = 16, sentence = "The graph is laid out (THE TURN is as by lay()) and DRAWN: true.",
+            edge = "another graph on the same desk")
+    static void drawOfASecondGraph(Answers answers) {
+        PlaneDesk desk = five();
+        desk.draw();
+        desk.graph(3);
+        desk.join(1, 0);
+        desk.join(1, 2);
+        desk.join(2, 0);
+        answers.due("draw()", desk.draw(), true);
+        answers.dueAt(desk, 0, 0, 0, 0);
+        answers.dueAt(desk, 1, 2, 0, 1);
+        answers.dueAt(desk, 2, 1, 1, 2);
+        desk.graph(5);
+        desk.fill();
+        answers.due("draw() of five", desk.draw(), true);
+        int places = 0;
+        for (int v = 0; v < 5; v++) {
+            places |= 1 << desk.at(v, 2);
+        }
+        answers.due("all places of the order", places, 31);
+    }
+
     @Says(promise = 16, sentence = NOT_DRAWN, edge = "a refused call: the turn stays as it is")
     static void refusedDrawLeavesTheTurn(Answers answers) {
         PlaneDesk desk = Graphs.desk(4, 0, 1, 0, 2, 0, 3, 1, 2, 1, 3);
@@ -504,6 +552,18 @@ final class DrawingBoundaries {
         answers.due("colour()", desk.colour(), 11);
         answers.due("colourOf(0)", desk.colourOf(0), 10);
         answers.due("colourOf(10)", desk.colourOf(10), 0);
+    }
+
+    @Says(promise = 18, sentence = COLOUR, edge = "another graph on the same desk")
+    static void colourOfASecondGraph(Answers answers) {
+        PlaneDesk desk = Graphs.star(20);
+        desk.colour();
+        desk.graph(5);
+        for (int v = 0; v < 5; v++) {
+            desk.join(v, (v + 1) % 5);
+        }
+        answers.due("colour()", desk.colour(), 3);
+        answers.dueColours(desk, 2, 1, 0, 1, 0, NONE);
     }
 
     @Says(promise = 18, sentence = COLOUR, edge = "it can't be laid out, and nothing else changes")

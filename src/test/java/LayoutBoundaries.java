@@ -13,6 +13,8 @@ final class LayoutBoundaries {
     private static final String A_WAY =
             "A WAY: from its least FOOT a, through VERTICES that aren't laid, to another FOOT b "
             + "(breadth first in the PART, neighbours by their numbers; the first other FOOT that is come to).";
+    private static final String NEW_RING =
+            "the RING from b on to a, then the WAY from behind a to ahead of b, comes behind all.";
     private static final String LEFT_OUT =
             "all EDGES at first; EDGE by EDGE, by their numbers, each is left out if the "
             + "others that are in it can't be laid out.";
@@ -150,12 +152,12 @@ final class LayoutBoundaries {
 
     @Says(promise = 7, sentence = "its FEET are those of its VERTICES that are laid.", edge = "all feet, not two alone")
     static void allFeetCount(Answers answers) {
-        // A part of three feet that would be asked for two of them alone would go where it doesn't fit.
-        PlaneDesk desk = Graphs.withEachOther(5, 5);
-        answers.due("about(5)", desk.about(5), 0);
-        answers.due("about(5) of three with three", Graphs.threeWithThree().about(5), 0);
-        PlaneDesk wheel = Graphs.desk(5, 0, 1, 1, 2, 2, 3, 0, 3, 0, 4, 1, 4, 2, 4, 3, 4);
-        answers.due("lay() of a wheel", wheel.lay(), 5);
+        // 0 1 2 and 0 2 1; 0 4 1: 0 1 4 and 1 2 0 4. 3 has feet 1, 2 and 4, and fits ring 2 alone; 1 and 2 are in
+        // ring 1 too. So 1 2 3 and 2 0 4 1 3; then the edge 3 4: 3 2 0 4 and 4 1 3.
+        PlaneDesk desk = Graphs.desk(5, 0, 1, 0, 2, 0, 4, 1, 2, 1, 3, 1, 4, 2, 3, 3, 4);
+        answers.due("lay()", desk.lay(), 5);
+        answers.dueTurn(desk, 1, 0, 4, 3, 2);
+        answers.dueTurn(desk, 3, 1, 4, 2);
     }
 
     @Says(promise = 7, sentence = "PARTS are numbered by their least EDGES.", edge = "two parts")
@@ -174,11 +176,11 @@ final class LayoutBoundaries {
 
     @Says(promise = 7, sentence = "A PART FITS a RING that has all its FEET.", edge = "a ring that has some of them")
     static void aPartFitsARingWithAllItsFeet(Answers answers) {
-        // 1 4 0 and 1 0 4; 0 3 4 parts the first: 0 1 4 3 and 4 0 3; 2 has feet 3 and 4: ring 0, not ring 1.
-        PlaneDesk desk = Graphs.desk(5, 1, 4, 0, 1, 2, 4, 0, 3, 2, 3, 3, 4, 0, 4);
+        // 0 1 3, 0 2 1 and 1 2 0 3: the edge 2 3 fits the last alone; the first has 3 without 2.
+        PlaneDesk desk = Graphs.withEachOther(4, 4);
         answers.due("lay()", desk.lay(), 4);
-        answers.dueTurn(desk, 3, 0, 4, 2);
-        answers.dueTurn(desk, 4, 0, 1, 2, 3);
+        answers.dueTurn(desk, 2, 0, 1, 3);
+        answers.dueTurn(desk, 3, 0, 2, 1);
     }
 
     @Says(promise = 7, sentence = "If one FITS none: the graph can't be laid out.", edge = "the first edge too many")
@@ -271,9 +273,7 @@ final class LayoutBoundaries {
         answers.dueTurn(desk, 3, 0, 1, 2);
     }
 
-    @Says(promise = 7, sentence = "the RING from b on to a, then the WAY from behind a to ahead of b, comes "
-            + "behind all.",
-            edge = "a wrap-around: a stands ahead of b in the row")
+    @Says(promise = 7, sentence = NEW_RING, edge = "a wrap-around: a stands ahead of b in the row")
     static void theRingFromBOnToAComesBehindAll(Answers answers) {
         // 0 1 2 and 0 2 1; 0 3 4 1: 0 1 4 3 and 1 2 0 3 4, the latter behind all. 5 (feet 3, 4) goes into ring 0:
         // 3 0 1 4 5 and 4 3 5.
@@ -283,13 +283,34 @@ final class LayoutBoundaries {
         answers.dueTurn(desk, 4, 1, 5, 3);
     }
 
+    @Says(promise = 7, sentence = NEW_RING, edge = "the longest ring and the longest way")
+    static void theLongestRingIsParted(Answers answers) {
+        // 0 1 2 and 0 2 1; then 0 3 4 .. 19 1: 0 1 19 .. 3 and 1 2 0 3 .. 19, which has all 20.
+        // The edge 2 19 parts it: 2 0 3 .. 19 and 19 1 2.
+        PlaneDesk desk = Graphs.desk(20, 0, 1, 1, 2, 0, 2, 0, 3);
+        for (int v = 3; v < 19; v++) {
+            desk.join(v, v + 1);
+        }
+        desk.join(19, 1);
+        desk.join(19, 2);
+        answers.due("lay()", desk.lay(), 4);
+        answers.dueTurn(desk, 0, 1, 2, 3);
+        answers.dueTurn(desk, 1, 0, 19, 2);
+        answers.dueTurn(desk, 2, 0, 1, 19);
+        answers.dueTurn(desk, 19, 1, 18, 2);
+        answers.due("face(0, 18)", desk.face(0, 18), 3);
+        answers.due("face(0, 19)", desk.face(0, 19), NONE);
+    }
+
     @Says(promise = 8, sentence = "z follows x around y, if in a RING y stands behind x and z behind y (in a ring).",
             edge = "a wrap-around")
     static void followersGoAroundTheEndOfARing(Answers answers) {
-        // 0 1 3 2, 0 3 1 and 3 0 2: 1 follows 2 around 0 by the first, 3 follows 1 by the second, around their ends.
+        // 0 1 3 2, 0 3 1 and 3 0 2: around 0, the first of two, 1 follows 2 and 3 follows 1; around 2, the last of two,
+        // 0 follows 3 and 3 follows 0.
         PlaneDesk desk = Graphs.desk(4, 0, 1, 0, 2, 0, 3, 1, 3, 2, 3);
         desk.lay();
         answers.dueTurn(desk, 0, 1, 3, 2);
+        answers.dueTurn(desk, 2, 0, 3);
     }
 
     @Says(promise = 8, sentence = "Around each VERTEX: BLOCK by BLOCK, by their numbers",
@@ -317,6 +338,29 @@ final class LayoutBoundaries {
         PlaneDesk three = Graphs.threeWithThree();
         three.lay();
         answers.due("knot(0) of three with three", three.knot(0), 9);
+    }
+
+    @Says(promise = 13, sentence = LEFT_OUT, edge = "all edges at first: a second knot on the same desk")
+    static void aSecondKnotHasNothingOfTheFirst(Answers answers) {
+        // First edges 0 to 4 are left out; then edge 0 alone, and 1 to 10 are five with each other.
+        PlaneDesk desk = Graphs.withEachOther(6, 6);
+        desk.lay();
+        desk.graph(6);
+        desk.join(0, 5);
+        for (int u = 0; u < 5; u++) {
+            for (int v = u + 1; v < 5; v++) {
+                desk.join(u, v);
+            }
+        }
+        answers.due("lay()", desk.lay(), NONE);
+        answers.due("knot(0)", desk.knot(0), 10);
+        answers.due("knot(2)", desk.knot(2), 5);
+        for (int i = 0; i < 10; i++) {
+            answers.due("knot(" + (100 + i) + ")", desk.knot(100 + i), i + 1);
+        }
+        for (int i = 0; i < 5; i++) {
+            answers.due("knot(" + (200 + i) + ")", desk.knot(200 + i), i);
+        }
     }
 
     @Says(promise = 13, sentence = LEFT_OUT, edge = "the first go first")
@@ -368,6 +412,26 @@ final class LayoutBoundaries {
         answers.due("lay()", desk.lay(), 4);
         answers.dueTetrahedron(desk, true);
         answers.dueTurn(desk, 0, 1, 2, 3);
+    }
+
+    @Says(promise = 7, sentence = LAID, edge = "another graph on the same desk")
+    static void layOfASecondGraph(Answers answers) {
+        PlaneDesk desk = Graphs.desk(20);
+        desk.fill();
+        desk.lay();
+        desk.graph(4);
+        desk.join(3, 2);
+        desk.join(2, 1);
+        desk.join(1, 3);
+        answers.due("lay()", desk.lay(), 2);
+        answers.dueTurn(desk, 0);
+        answers.dueTurn(desk, 1, 2, 3);
+        answers.dueTurn(desk, 2, 1, 3);
+        answers.dueTurn(desk, 3, 1, 2);
+        answers.dueFace(desk, 0, 2, 3, 1);
+        answers.dueFace(desk, 1, 3, 2, 1);
+        answers.due("face(2, 0)", desk.face(2, 0), NONE);
+        answers.due("genus()", desk.genus(), 0);
     }
 
     @Says(promise = 7, sentence = CANT, edge = "a refused call")
@@ -818,6 +882,12 @@ final class LayoutBoundaries {
         answers.due("turn(0, 0)", desk.turn(0, 0), before);
         answers.due("genus()", desk.genus(), 1);
         answers.due("colourOf(0) there", desk.colourOf(0) != NONE, true);
+        PlaneDesk two = Graphs.desk(4, 0, 1, 2, 3);
+        two.lay();
+        answers.due("may(1, 2)", two.may(1, 2), 1);
+        answers.due("genus() of two edges", two.genus(), 0);
+        answers.due("about(2) of two edges", two.about(2), 2);
+        answers.due("turn(1, 1) of two edges", two.turn(1, 1), NONE);
     }
 
     @Says(promise = 14, sentence = NO_MAY, edge = "too small")
